@@ -1,0 +1,117 @@
+/** Many runs of calls, each answer compared with the one of PlainDesk; the same runs every time. */
+public final class AgainstPlainDeskTest {
+    private static final Due DUE = new Due("AgainstPlainDeskTest");
+    private static long seed = 20261115;
+
+    private static int below(int bound) {
+        seed = seed * 6364136223846793005L + 1442695040888963407L;
+        return (int) ((seed >>> 33) % bound);
+    }
+
+    private static int from(int least, int greatest) {
+        return least + below(greatest - least + 1);
+    }
+
+    private static int code(int letters, int spaces) {
+        int roll = below(100);
+        return roll < spaces ? 10 : roll < spaces + 4 ? 11 : roll == 99 ? from(-2, 13) : below(letters);
+    }
+
+    private static void change(GalleyDesk desk, PlainDesk plain, int letters) {
+        int x = from(-1, letters);
+        int y = below(letters);
+        int z = from(-1, 9);
+        switch (below(9)) {
+            case 0 -> {
+                int w = from(5, 31);
+                DUE.is("width", desk.width(x, w) ? 1 : 0, plain.width(x, w) ? 1 : 0);
+            }
+            case 1 -> DUE.is("ligature", desk.ligature(x, y, z) ? 1 : 0, plain.ligature(x, y, z) ? 1 : 0);
+            case 2 -> {
+                int k = from(-6, 6);
+                DUE.is("kern", desk.kern(x, y, k) ? 1 : 0, plain.kern(x, y, k) ? 1 : 0);
+            }
+            case 3, 4 -> {
+                int a = below(6) == 0 ? 10 : below(letters);
+                int b = below(3) == 0 ? -1 : below(8) == 0 ? 10 : below(letters);
+                int c = below(2) == 0 ? -1 : below(6) == 0 ? 10 : below(letters);
+                int most = b == -1 ? 99 : c == -1 ? 999 : 9999;
+                int digits = below(8) == 0 ? 0 : from(-1, most + most / 50);
+                boolean got = desk.pattern(a, b, c, digits);
+                DUE.is("pattern " + a + " " + b + " " + c + " " + digits, got ? 1 : 0,
+                    plain.pattern(a, b, c, digits) ? 1 : 0);
+            }
+            case 5, 6 -> {
+                int first = from(18, 160);
+                int rest = below(3) == 0 ? first : from(18, 160);
+                int n = from(-1, 4);
+                DUE.is("measure", desk.measure(first, rest, n) ? 1 : 0, plain.measure(first, rest, n) ? 1 : 0);
+            }
+            case 7 -> {
+                int wide = from(0, 21);
+                int stretch = from(-1, 21);
+                int shrink = from(-1, wide + 1);
+                DUE.is("glue", desk.glue(wide, stretch, shrink) ? 1 : 0, plain.glue(wide, stretch, shrink) ? 1 : 0);
+            }
+            default -> {
+                int tolerance = below(2) == 0 ? 10000 : from(-1, 300);
+                int cost = from(-1, 201);
+                int height = from(0, 8);
+                DUE.is("rules", desk.rules(tolerance, cost, height) ? 1 : 0,
+                    plain.rules(tolerance, cost, height) ? 1 : 0);
+            }
+        }
+    }
+
+    private static void ask(GalleyDesk desk, PlainDesk plain, String run) {
+        for (int i = -1; i <= plain.text.size() + 1; i++) {
+            DUE.is(run + "hyphen(" + i + ")", desk.hyphen(i) ? 1 : 0, plain.hyphen(i) ? 1 : 0);
+            int to = i + from(-1, 6);
+            DUE.is(run + "span(" + i + ", " + to + ")", desk.span(i, to), plain.span(i, to));
+        }
+        if (!plain.set()) {
+            return;
+        }
+        DUE.is(run + "lines()", desk.lines(), plain.lines.size());
+        for (int k = -1; k <= plain.lines.size(); k++) {
+            for (int what = -1; what <= 8; what++) {
+                DUE.is(run + "line(" + k + ", " + what + ")", desk.line(k, what), plain.line(k, what));
+            }
+        }
+        for (int p = -1; p <= plain.demerits.size(); p++) {
+            DUE.is(run + "demerits(" + p + ")", desk.demerits(p), plain.demerits(p));
+        }
+        for (int i = -1; i <= plain.text.size(); i++) {
+            int[] want = plain.glyphAndPosition(i);
+            DUE.is(run + "glyph(" + i + ")", desk.glyph(i), want[0]);
+            DUE.is(run + "position(" + i + ")", desk.position(i), want[1]);
+        }
+    }
+
+    private static void run(int number) {
+        GalleyDesk desk = new GalleyDesk();
+        PlainDesk plain = new PlainDesk();
+        int letters = below(2) == 0 ? from(1, 3) : 10;
+        int spaces = from(8, 40);
+        int codes = from(4, 50);
+        for (int i = 0; i < codes; i++) {
+            int code = code(letters, spaces);
+            DUE.is("put(" + code + ")", desk.put(-1, code, 12, -1), plain.put(-1, code, 12, -1));
+        }
+        int rounds = from(1, 4);
+        for (int round = 0; round < rounds; round++) {
+            int changes = from(0, 12);
+            for (int i = 0; i < changes; i++) {
+                change(desk, plain, letters);
+            }
+            ask(desk, plain, "run " + number + ", round " + round + ": ");
+        }
+    }
+
+    public static void main(String[] args) {
+        for (int number = 0; number < 1500; number++) {
+            run(number);
+        }
+        DUE.end();
+    }
+}
