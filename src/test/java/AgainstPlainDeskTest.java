@@ -108,9 +108,44 @@ public final class AgainstPlainDeskTest {
         }
     }
 
+    /** With all widths multiples of 10 and lines that miss by as much on either side, many ways cost the same. */
+    private static void runWithTies(int number) {
+        GalleyDesk desk = new GalleyDesk();
+        PlainDesk plain = new PlainDesk();
+        int words = from(4, 10);
+        for (int i = 0; i < words; i++) {
+            for (int letters = from(1, 4); letters > 0; letters--) {
+                desk.put(letters % 2, -1, -1, -1);
+                plain.put(letters % 2, -1, -1, -1);
+            }
+            desk.put(10, -1, -1, -1);
+            plain.put(10, -1, -1, -1);
+        }
+        int give = from(1, 4) * 5;
+        int wide = give > 10 ? 20 : 10;
+        desk.glue(wide, give, give);
+        plain.glue(wide, give, give);
+        int first = from(5, 12) * 10;
+        int rest = from(5, 12) * 10;
+        int n = below(4);
+        desk.measure(first, rest, n);
+        plain.measure(first, rest, n);
+        int cost = from(0, 2) * 10;
+        desk.rules(10000, cost, 6);
+        plain.rules(10000, cost, 6);
+        if (below(3) == 0) {
+            desk.pattern(0, 1, -1, 10);
+            plain.pattern(0, 1, -1, 10);
+        }
+        ask(desk, plain, "run " + number + " with ties: ");
+    }
+
     public static void main(String[] args) {
         for (int number = 0; number < 1500; number++) {
             run(number);
+        }
+        for (int number = 0; number < 3000; number++) {
+            runWithTies(number);
         }
         DUE.end();
     }

@@ -89,6 +89,12 @@ public final class LinesTest {
         // 38 in 42: badness 29 and class 2, two above the class 0 of the line before.
         DUE.is("14: tight, then loose", Desks.shown(desk), "0-5:46:29 6-10:38:29 11-14:30:0");
         DUE.is("17: a jump", desk.demerits(0), 39 * 39 + 39 * 39 + 2000 + 100);
+        GalleyDesk edge = Desks.with("00 00 00 00 00 00 0000");
+        edge.glue(6, 9, 0);
+        edge.measure(55, 112, 1);
+        // 46 in 55 is class 3; 98 in 112: 100 * 14^3 / 27^3 = 13 is already class 2.
+        DUE.is("14: badness 13", Desks.shown(edge), "0-5:46:100 6-17:98:13 18-22:40:0");
+        DUE.is("17: badness 13", edge.demerits(0), 110 * 110 + 2000 + 23 * 23 + 100);
     }
 
     private static void hyphensCost() {
@@ -114,11 +120,17 @@ public final class LinesTest {
         DUE.is("17: of two ways", desk.demerits(0), WORST + 2000 + 100 + 2000);
         Desks.put(desk, " 0 0");
         DUE.is("13: of three ways", Desks.shown(desk), "0-3:26:10000 4-7:26:10000 8-9:10:0");
-        GalleyDesk more = Desks.with("0 0 0 0");
-        more.glue(6, 0, 0);
-        more.rules(10000, 0, 6);
-        more.measure(43, 27, 1);
-        DUE.is("13: the last break decides", Desks.shown(more), "0-5:42:10000 6-7:10:0");
+    }
+
+    private static void breaksFurtherBackDecideATie() {
+        GalleyDesk desk = Desks.with("2 2 0011111 2222222");
+        desk.pattern(0, 1, -1, 10);
+        desk.glue(6, 0, 0);
+        desk.rules(10000, 10, 6);
+        desk.measure(60, 70, 2);
+        // As good, with the same break before the last line, is a way of four lines: 0-1 2-3 4-11 12-19.
+        DUE.is("13: fewer lines", Desks.shown(desk), "0-6:57:10000- 6-11:50:10000 12-19:70:0");
+        DUE.is("17: fewer lines", desk.demerits(0), 2 * WORST + 2000 + 100 + 2000 + 100);
     }
 
     private static void emergencyTakesTheLastThatFits() {
@@ -132,6 +144,15 @@ public final class LinesTest {
         DUE.is("17: emergency", desk.demerits(0), -1);
         desk.ligature(0, 0, -1);
         DUE.is("13: the next where none fits", Desks.shown(desk), "0-2:37:-1- 2-4:32:-1 5-7:37:-1- 7-9:32:-1");
+        GalleyDesk between = Desks.with("0 0000 0000");
+        between.ligature(0, 0, 0);
+        between.width(0, 16);
+        between.pattern(0, -1, -1, 1);
+        between.measure(40, 40, 0);
+        between.rules(0, 0, 6);
+        // 16 to the first word's end, 43 to the hyphen behind it, 38 to the second word's end.
+        DUE.is("13: behind an overfull one in between", Desks.shown(between), "0-6:38:29 7-11:16:0");
+        DUE.is("17: badness 29 is not tolerated", between.demerits(0), -1);
         GalleyDesk first = Desks.with("000 000 000/0");
         first.measure(36, 66, 1);
         DUE.is("13: line by line as wide as due", Desks.shown(first), "0-3:30:10000 4-11:66:0 12-13:10:0");
@@ -222,6 +243,7 @@ public final class LinesTest {
         classesJumpFromTightToLoose();
         hyphensCost();
         laterBreaksWinATie();
+        breaksFurtherBackDecideATie();
         emergencyTakesTheLastThatFits();
         longestParagraph();
         spacesShareWhatIsOver();

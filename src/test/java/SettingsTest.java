@@ -31,16 +31,17 @@ public final class SettingsTest {
         DUE.is("1: shrink", Desks.shown(Desks.with("000 000 000 0000")), "0-11:102:12 12-16:40:0");
         // Natural 98 with three spaces: 100 * 2^3 / (3 * 3)^3 = 1.
         DUE.is("1: stretch", Desks.shown(Desks.with("00 00 00 00 0000")), "0-11:98:1 12-16:40:0");
-        GalleyDesk within = new GalleyDesk();
-        within.width(1, 11);
-        Desks.put(within, "0 0 0 0 01 00000");
-        // Natural 85 with four spaces: badness 195, (10 + 195)^2, 10^2 and a jump of the class before either line.
-        DUE.is("1: badness 195 is tolerated", within.demerits(0), 42025 + 100 + 4000);
-        GalleyDesk beyond = new GalleyDesk();
-        beyond.width(1, 7);
-        Desks.put(beyond, "0 0 0 1 1 1 00000");
-        DUE.is("1: badness 203", beyond.line(0, 3), 203);
-        DUE.is("1: badness 203 is not tolerated", beyond.demerits(0), -1);
+        GalleyDesk within = Desks.with("0 0 0 0 0 0 00000000");
+        within.glue(6, 10, 2);
+        within.measure(153, 153, 0);
+        // 90 in 153: 100 * 63^3 / 50^3 = 200; the class jumps before either line.
+        DUE.is("1: badness 200 is tolerated", within.demerits(0), 210 * 210 + 2000 + 100 + 2000);
+        GalleyDesk beyond = Desks.with("0 0 000");
+        beyond.glue(6, 19, 2);
+        beyond.measure(50, 50, 0);
+        // 26 in 50: 100 * 24^3 / 19^3 = 201.
+        DUE.is("1: badness 201", beyond.line(0, 3), 201);
+        DUE.is("1: badness 201 is not tolerated", beyond.demerits(0), -1);
         GalleyDesk costly = Desks.with("000000000000");
         costly.pattern(0, -1, -1, 1);
         costly.measure(65, 65, 0);
