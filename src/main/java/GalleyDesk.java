@@ -3,6 +3,7 @@ public final class GalleyDesk {
     private static final int NONE = -1;
 
     private static final int LETTERS = 10;
+    private static final int PAIRS = LETTERS * LETTERS;
     private static final int SPACE = 10;
     private static final int PARAGRAPH_END = 11;
     private static final int MAX_TEXT = 48;
@@ -29,6 +30,7 @@ public final class GalleyDesk {
     private static final int MAX_FIRST_LINES = 3;
     private static final int LINE_NUMBERS = MAX_FIRST_LINES + 1;
     private static final int STATES_PER_BREAK = LINE_NUMBERS * CLASSES;
+    private static final int STATES = MAX_BREAKS * STATES_PER_BREAK;
 
     private static final int FACT_FROM = 0;
     private static final int FACT_TO = 1;
@@ -40,14 +42,15 @@ public final class GalleyDesk {
     /** The one fact that no caller may ask for: by how much the spaces of the line differ together. */
     private static final int FACT_EXTRA = 7;
     private static final int LINE_FACTS = 8;
+    private static final int ALL_FACTS = MAX_TEXT * LINE_FACTS;
 
     private final int[] text = new int[MAX_TEXT];
     private int length = 0;
 
     private final int[] widths = new int[LETTERS];
-    private final int[] ligatures = new int[LETTERS * LETTERS];
+    private final int[] ligatures = new int[PAIRS];
     private int ligatureCount = 0;
-    private final int[] kerns = new int[LETTERS * LETTERS];
+    private final int[] kerns = new int[PAIRS];
     /** The digits of every possible pattern; 0 means that there is none, as it does for the caller. */
     private final int[] patterns = new int[PATTERN_KEYS];
     private int patternCount = 0;
@@ -74,10 +77,10 @@ public final class GalleyDesk {
     private int breakCount = 0;
 
     /** The best way to each state: a break, the number of lines up to it and the class of the last one. */
-    private final long[] wayDemerits = new long[MAX_BREAKS * STATES_PER_BREAK];
-    private final int[] wayBefore = new int[MAX_BREAKS * STATES_PER_BREAK];
+    private final long[] wayDemerits = new long[STATES];
+    private final int[] wayBefore = new int[STATES];
 
-    private final int[] lineFacts = new int[MAX_TEXT * LINE_FACTS];
+    private final int[] lineFacts = new int[ALL_FACTS];
     private int lineCount = 0;
     private final long[] paragraphDemerits = new long[MAX_TEXT];
     private int paragraphCount = 0;
@@ -88,7 +91,7 @@ public final class GalleyDesk {
         for (int i = 0; i < LETTERS; i++) {
             widths[i] = 10;
         }
-        for (int i = 0; i < LETTERS * LETTERS; i++) {
+        for (int i = 0; i < PAIRS; i++) {
             ligatures[i] = NONE;
         }
     }
@@ -499,7 +502,7 @@ public final class GalleyDesk {
 
     /** Takes the breaks of the feasible way with the least demerits and answers these, or -1 if there is none. */
     private long takeBestWay() {
-        for (int state = 0; state < MAX_BREAKS * STATES_PER_BREAK; state++) {
+        for (int state = 0; state < STATES; state++) {
             wayDemerits[state] = NONE;
         }
         int beginning = stateOf(0, 0, CLASS_BEFORE_FIRST);

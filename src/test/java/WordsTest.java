@@ -94,18 +94,12 @@ public final class WordsTest {
     }
 
     private static void digitsStandInTheirOrder() {
-        GalleyDesk before = Desks.with("9901299");
-        before.pattern(0, 1, 2, 1000);
-        DUE.is("12: before the first letter", hyphens(before), "2");
-        GalleyDesk second = Desks.with("9901299");
-        second.pattern(0, 1, 2, 100);
-        DUE.is("12: before the second letter", hyphens(second), "3");
-        GalleyDesk third = Desks.with("9901299");
-        third.pattern(0, 1, 2, 10);
-        DUE.is("12: before the third letter", hyphens(third), "4");
-        GalleyDesk behind = Desks.with("9901299");
-        behind.pattern(0, 1, 2, 1);
-        DUE.is("12: behind the last letter", hyphens(behind), "5");
+        int[] digits = {1000, 100, 10, 1};
+        for (int i = 0; i < digits.length; i++) {
+            GalleyDesk desk = Desks.with("9901299");
+            desk.pattern(0, 1, 2, digits[i]);
+            DUE.is("12: digits " + digits[i], hyphens(desk), "" + (2 + i));
+        }
     }
 
     private static void theGreatestDigitCounts() {
