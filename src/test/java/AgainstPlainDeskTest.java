@@ -1,4 +1,4 @@
-/** Many runs of calls, each answer compared with the one of PlainDesk; the same runs every time. */
+/** Many runs of at most 512 calls, each answer compared with the one of PlainDesk; the same runs every time. */
 public final class AgainstPlainDeskTest {
     private static final Due DUE = new Due("AgainstPlainDeskTest");
     private static long seed = 20261115;
@@ -63,6 +63,7 @@ public final class AgainstPlainDeskTest {
         }
     }
 
+    /** All questions once: with 48 codes on 24 lines some 400 calls. */
     private static void ask(GalleyDesk desk, PlainDesk plain, String run) {
         for (int i = -1; i <= plain.text.size() + 1; i++) {
             DUE.is(run + "hyphen(" + i + ")", desk.hyphen(i) ? 1 : 0, plain.hyphen(i) ? 1 : 0);
@@ -73,8 +74,8 @@ public final class AgainstPlainDeskTest {
             return;
         }
         DUE.is(run + "lines()", desk.lines(), plain.lines.size());
-        for (int k = -1; k <= plain.lines.size(); k++) {
-            for (int what = -1; what <= 8; what++) {
+        for (int k = 0; k < plain.lines.size(); k++) {
+            for (int what = 0; what <= 6; what++) {
                 DUE.is(run + "line(" + k + ", " + what + ")", desk.line(k, what), plain.line(k, what));
             }
         }
@@ -88,24 +89,51 @@ public final class AgainstPlainDeskTest {
         }
     }
 
+    /** Four questions, any of which has the lines set before the next changes. */
+    private static void askSome(GalleyDesk desk, PlainDesk plain, String run) {
+        if (!plain.set()) {
+            return;
+        }
+        int k = from(-1, plain.lines.size());
+        int what = from(-1, 7);
+        DUE.is(run + "line(" + k + ", " + what + ")", desk.line(k, what), plain.line(k, what));
+        int p = from(-1, plain.demerits.size());
+        DUE.is(run + "demerits(" + p + ")", desk.demerits(p), plain.demerits(p));
+        int i = from(-1, plain.text.size());
+        int[] want = plain.glyphAndPosition(i);
+        DUE.is(run + "glyph(" + i + ")", desk.glyph(i), want[0]);
+        DUE.is(run + "position(" + i + ")", desk.position(i), want[1]);
+    }
+
+    private static void put(GalleyDesk desk, PlainDesk plain, int codes, int letters, int spaces) {
+        for (int i = 0; i < codes; i += 4) {
+            int a = code(letters, spaces);
+            int b = code(letters, spaces);
+            int c = code(letters, spaces);
+            int d = code(letters, spaces);
+            DUE.is("put(" + a + ", " + b + ", " + c + ", " + d + ")", desk.put(a, b, c, d), plain.put(a, b, c, d));
+        }
+    }
+
     private static void run(int number) {
         GalleyDesk desk = new GalleyDesk();
         PlainDesk plain = new PlainDesk();
         int letters = below(2) == 0 ? from(1, 3) : 10;
         int spaces = from(8, 40);
-        int codes = from(4, 50);
-        for (int i = 0; i < codes; i++) {
-            int code = code(letters, spaces);
-            DUE.is("put(" + code + ")", desk.put(-1, code, 12, -1), plain.put(-1, code, 12, -1));
-        }
         int rounds = from(1, 4);
+        put(desk, plain, from(4, 50), letters, spaces);
         for (int round = 0; round < rounds; round++) {
             int changes = from(0, 12);
             for (int i = 0; i < changes; i++) {
                 change(desk, plain, letters);
             }
-            ask(desk, plain, "run " + number + ", round " + round + ": ");
+            askSome(desk, plain, "run " + number + ", round " + round + ": ");
+            if (below(8) == 0) {
+                DUE.is("wipe()", desk.wipe(), plain.wipe());
+                put(desk, plain, from(4, 50), letters, spaces);
+            }
         }
+        ask(desk, plain, "run " + number + ": ");
     }
 
     /** With all widths multiples of 10 and lines that miss by as much on either side, many ways cost the same. */
@@ -114,12 +142,11 @@ public final class AgainstPlainDeskTest {
         PlainDesk plain = new PlainDesk();
         int words = from(4, 10);
         for (int i = 0; i < words; i++) {
-            for (int letters = from(1, 4); letters > 0; letters--) {
-                desk.put(letters % 2, -1, -1, -1);
-                plain.put(letters % 2, -1, -1, -1);
+            int letters = from(1, 4);
+            for (int at = letters; at > 0; at--) {
+                int behind = at == 1 ? 10 : -1;
+                DUE.is("put", desk.put(at % 2, behind, -1, -1), plain.put(at % 2, behind, -1, -1));
             }
-            desk.put(10, -1, -1, -1);
-            plain.put(10, -1, -1, -1);
         }
         int give = from(1, 4) * 5;
         int wide = give > 10 ? 20 : 10;
@@ -141,7 +168,7 @@ public final class AgainstPlainDeskTest {
     }
 
     public static void main(String[] args) {
-        for (int number = 0; number < 1500; number++) {
+        for (int number = 0; number < 3000; number++) {
             run(number);
         }
         for (int number = 0; number < 3000; number++) {
