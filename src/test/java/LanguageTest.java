@@ -14,8 +14,8 @@ public final class LanguageTest {
     private static final Path SOURCE = Path.of("src/main/java/GalleyDesk.java");
     private static final int LONGEST_METHOD = 60;
     private static final int DEEPEST_CALL = 6;
-    private static final Pattern METHOD =
-        Pattern.compile("\n    (?:public|private)(?: static)? (?:\\w+ )?(\\w+)\\([^)]*\\) \\{\n(.*?)\n    \\}", Pattern.DOTALL);
+    private static final Pattern METHOD = Pattern.compile(
+        "\n    (?:public|private)(?: static)? (?:\\w+ )?(\\w+)\\([^)]*\\) \\{\n(.*?)\n    \\}", Pattern.DOTALL);
     private static final Pattern CALL = Pattern.compile("(?<![.\\w])(\\w+)\\(");
 
     private static String sourceWithoutComments() throws IOException {
@@ -44,13 +44,14 @@ public final class LanguageTest {
     }
 
     private static void forbiddenWords(String source) {
-        String[] words = {"package", "import", "float", "double", "String", "Math", "Integer", "System", "Arrays", "null",
-            "throw", "throws", "try", "catch", "synchronized", "assert", "instanceof", "interface", "enum", "record",
-            "protected", "this", "super", "->", "::", "\""};
+        String[] words = {"package", "import", "float", "double", "String", "Math", "Integer", "System", "Arrays",
+            "null", "throw", "throws", "try", "catch", "synchronized", "assert", "instanceof", "interface", "enum",
+            "record", "protected", "this", "super", "->", "::", "\""};
         for (String word : words) {
             boolean isWord = Character.isLetter(word.charAt(0));
             String bound = isWord ? "\\b" : "";
-            DUE.no("rules 1 to 6: " + word, Pattern.compile(bound + Pattern.quote(word) + bound).matcher(source).find());
+            Pattern whole = Pattern.compile(bound + Pattern.quote(word) + bound);
+            DUE.no("rules 1 to 6: " + word, whole.matcher(source).find());
         }
     }
 
@@ -60,7 +61,8 @@ public final class LanguageTest {
         while (made.find()) {
             all++;
         }
-        Matcher fields = Pattern.compile("\n    private final (\\w+)\\[\\] \\w+ = new \\1\\[[A-Z_]+\\];").matcher(source);
+        Pattern field = Pattern.compile("\n    private final (\\w+)\\[\\] \\w+ = new \\1\\[[A-Z_]+\\];");
+        Matcher fields = field.matcher(source);
         int inFields = 0;
         while (fields.find()) {
             inFields++;
@@ -97,7 +99,8 @@ public final class LanguageTest {
             while (call.find()) {
                 if (methods.containsKey(call.group(1))) {
                     Set<String> inside = calls(arguments(body, call.end()), methods.keySet());
-                    DUE.is("rule 10: calls in the arguments of " + call.group(1) + " in " + name, inside.toString(), "[]");
+                    String what = "rule 10: calls in the arguments of " + call.group(1) + " in " + name;
+                    DUE.is(what, inside.toString(), "[]");
                 }
             }
         });

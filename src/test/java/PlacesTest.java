@@ -118,14 +118,14 @@ public final class PlacesTest {
         DUE.is("16: two spaces", Desks.positions(desk).replaceAll(" -1", ""), "0 17 35 0 10 20 30 40 50 60 70");
     }
 
-    /** Spaces stand between all letters, the first one and the last one. */
+    /** Every letter is one, the first and the last: spaces stand beside it, but not behind it in its word. */
     private static void spacesBesideEveryLetter() {
         for (int letter = 0; letter <= 9; letter++) {
-            GalleyDesk desk = Desks.with("5 " + letter + " 5 55555555");
-            desk.measure(45, 300, 1);
+            GalleyDesk desk = Desks.with("LL L LL 5555".replace("L", "" + letter));
+            desk.measure(65, 300, 1);
             desk.rules(10000, 0, 6);
-            DUE.is("16: beside " + letter, Desks.positions(desk).replaceAll(" -1", ""), "0 17 35 0 10 20 30 40 50 60 70");
-            // 100 * 3^3 / (2 * 3)^3 = 12.
+            DUE.is("16: beside " + letter, Desks.positions(desk), "0 10 -1 27 -1 45 55 -1 0 10 20 30");
+            // 62 in 65: 100 * 3^3 / (2 * 3)^3 = 12.
             DUE.is("14: beside " + letter, desk.line(0, 3), 12);
         }
     }

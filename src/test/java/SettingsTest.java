@@ -273,7 +273,8 @@ public final class SettingsTest {
     private static void glueRefuses() {
         Refusals desks = new Refusals(DUE, SettingsTest::stretchedAndShrunk);
         int[][] wrong = {{0, 9, 0}, {21, 9, 5}, {-1, 9, 0}, {4, -1, 1}, {4, 21, 1}, {4, 9, -1}, {4, 9, 5}, {1, 9, 2},
-            {20, 9, 21}, {0, 9, 1}, {LEAST, 9, 1}, {MOST, 9, 1}, {4, LEAST, 1}, {4, MOST, 1}, {4, 9, LEAST}, {4, 9, MOST}};
+            {20, 9, 21}, {0, 9, 1}, {LEAST, 9, 1}, {MOST, 9, 1}, {4, LEAST, 1}, {4, MOST, 1}, {4, 9, LEAST},
+            {4, 9, MOST}};
         for (int[] w : wrong) {
             desks.refuses("9: glue " + w[0] + " " + w[1] + " " + w[2], desk -> desk.glue(w[0], w[1], w[2]));
         }

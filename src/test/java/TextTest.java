@@ -54,7 +54,8 @@ public final class TextTest {
             int after = before + 4 < 48 ? before + 4 : 48;
             DUE.is("2: four behind " + before, desk.put(1, 2, 3, 4), after);
             for (int i = 40; i < 49; i++) {
-                DUE.is("2: place " + i + " behind " + before, desk.glyph(i), i < before ? 0 : i < after ? i - before + 1 : -1);
+                int due = i < before ? 0 : i < after ? i - before + 1 : -1;
+                DUE.is("2: place " + i + " behind " + before, desk.glyph(i), due);
             }
             DUE.is("2: length behind " + before, Desks.length(desk), after);
         }
