@@ -197,7 +197,7 @@ public final class BadnessTest {
         DUE.is("17: 13 is of class 2", desk.demerits(0), 110 * 110 + 2000 + 23 * 23 + 100);
     }
 
-    /** "2 if the badness is less than 100, else 3": no line can have 99, the nearest is 98. */
+    /** "2 if the badness is less than 100, else 3": no loose line can have 99, the nearest is 98. */
     private static void veryLooseLinesOfClass() {
         GalleyDesk desk = Desks.with("1 1 1 1 1 1 1 1 1 1 1 22222222");
         desk.width(1, 7);

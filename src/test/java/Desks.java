@@ -97,7 +97,7 @@ final class Desks {
         return all.toString();
     }
 
-    /** What a desk answers to all questions, so that a change anywhere shows. */
+    /** What a desk answers to questions of every kind, so that a change shows wherever it is. */
     static String everything(GalleyDesk desk) {
         int length = length(desk);
         StringBuilder all = new StringBuilder(length + " codes, spans");
