@@ -70,6 +70,10 @@ public final class AgainstPlainDeskTest {
             int to = i + from(-1, 6);
             DUE.is(run + "span(" + i + ", " + to + ")", desk.span(i, to), plain.span(i, to));
         }
+        askOfLines(desk, plain, run);
+    }
+
+    private static void askOfLines(GalleyDesk desk, PlainDesk plain, String run) {
         if (!plain.set()) {
             return;
         }
@@ -167,12 +171,60 @@ public final class AgainstPlainDeskTest {
         ask(desk, plain, "run " + number + " with ties: ");
     }
 
+    /** A full text with a break at most letters; words aren't asked for, since 48 lines alone take 480 calls. */
+    private static void runWithManyBreaks(int number) {
+        GalleyDesk desk = new GalleyDesk();
+        PlainDesk plain = new PlainDesk();
+        int spaces = below(3) == 0 ? 0 : from(0, 50);
+        int ends = below(2) == 0 ? 0 : from(1, 8);
+        int[] codes = new int[48];
+        for (int i = 0; i < 48; i++) {
+            int roll = below(100);
+            codes[i] = roll < spaces ? 10 : roll < spaces + ends ? 11 : below(4);
+        }
+        for (int i = 0; i < 48; i += 4) {
+            desk.put(codes[i], codes[i + 1], codes[i + 2], codes[i + 3]);
+            plain.put(codes[i], codes[i + 1], codes[i + 2], codes[i + 3]);
+        }
+        int patterns = from(1, 6);
+        for (int i = 0; i < patterns; i++) {
+            int letter = below(4);
+            int digits = from(0, 4) * 10 + from(0, 3);
+            desk.pattern(letter, -1, -1, digits);
+            plain.pattern(letter, -1, -1, digits);
+        }
+        for (int letter = 0; letter < 4; letter++) {
+            int w = from(6, 16);
+            desk.width(letter, w);
+            plain.width(letter, w);
+        }
+        int wide = from(1, 20);
+        int stretch = from(0, 20);
+        int shrink = from(0, wide);
+        desk.glue(wide, stretch, shrink);
+        plain.glue(wide, stretch, shrink);
+        int first = below(4) == 0 ? from(20, 300) : from(20, 80);
+        int rest = below(4) == 0 ? from(20, 300) : from(20, 80);
+        int n = below(4);
+        desk.measure(first, rest, n);
+        plain.measure(first, rest, n);
+        int tolerance = below(4) == 0 ? from(0, 10000) : 10000;
+        int cost = from(0, 200);
+        int height = from(1, 12);
+        desk.rules(tolerance, cost, height);
+        plain.rules(tolerance, cost, height);
+        askOfLines(desk, plain, "run " + number + " with many breaks: ");
+    }
+
     public static void main(String[] args) {
         for (int number = 0; number < 3000; number++) {
             run(number);
         }
         for (int number = 0; number < 3000; number++) {
             runWithTies(number);
+        }
+        for (int number = 0; number < 500; number++) {
+            runWithManyBreaks(number);
         }
         DUE.end();
     }

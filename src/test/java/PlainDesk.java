@@ -5,7 +5,7 @@ import java.util.Map;
 
 /** The document's words again, as plainly as they can be coded: every way to break a paragraph is tried. */
 final class PlainDesk {
-    static final int MOST_BREAKS = 12;
+    static final int MOST_TRIES = 20000;
 
     record Break(int end, int next, boolean hyphen) {
     }
@@ -31,6 +31,8 @@ final class PlainDesk {
     int cost = 50;
     int height = 6;
 
+    Way best = null;
+    int tries = 0;
     List<Line> lines = new ArrayList<>();
     List<Long> demerits = new ArrayList<>();
 
@@ -324,24 +326,30 @@ final class PlainDesk {
     }
 
     Way bestWay(int from, List<Break> all, int paragraph) {
-        Break end = all.get(all.size() - 1);
-        Way best = null;
-        for (int mask = 0; mask < 1 << (all.size() - 1); mask++) {
-            List<Break> way = new ArrayList<>();
-            for (int b = 0; b < all.size(); b++) {
-                if (b == all.size() - 1 || (mask >> b & 1) == 1) {
-                    way.add(all.get(b));
-                }
-            }
-            long sum = demeritsOf(linesOf(from, way, end, paragraph));
-            if (sum == -1) {
-                continue;
-            }
-            if (best == null || sum < best.demerits || sum == best.demerits && later(way, best.breaks)) {
-                best = new Way(way, sum);
-            }
-        }
+        best = null;
+        tryWays(from, all, new ArrayList<>(), 0, paragraph);
         return best;
+    }
+
+    /** Every way that begins with these breaks, but for those that no further line could make the best. */
+    void tryWays(int from, List<Break> all, List<Break> way, int done, int paragraph) {
+        Break end = all.get(all.size() - 1);
+        long sum = demeritsOf(linesOf(from, way, end, paragraph));
+        tries++;
+        if (sum == -1 || best != null && sum > best.demerits || tries > MOST_TRIES) {
+            return;
+        }
+        if (done == all.size()) {
+            if (best == null || sum < best.demerits || later(way, best.breaks)) {
+                best = new Way(List.copyOf(way), sum);
+            }
+            return;
+        }
+        for (int b = done; b < all.size(); b++) {
+            way.add(all.get(b));
+            tryWays(from, all, way, b + 1, paragraph);
+            way.remove(way.size() - 1);
+        }
     }
 
     List<Break> emergency(int from, List<Break> all) {
@@ -364,24 +372,22 @@ final class PlainDesk {
         return way;
     }
 
-    /** Sets all lines; false if a paragraph has too many breaks to try every way. */
+    /** Sets all lines; false if there are too many ways to try every one. */
     boolean set() {
+        tries = 0;
         lines = new ArrayList<>();
         demerits = new ArrayList<>();
         int from = 0;
         for (int i = 0; i <= text.size(); i++) {
             if (i == text.size() || text.get(i) == 11) {
                 List<Break> all = breaks(from, i);
-                if (all.size() > MOST_BREAKS) {
-                    return false;
-                }
                 if (!all.isEmpty()) {
                     setParagraph(parts(from, i).get(0)[0], all);
                 }
                 from = i + 1;
             }
         }
-        return true;
+        return tries <= MOST_TRIES;
     }
 
     void setParagraph(int from, List<Break> all) {
